@@ -1025,13 +1025,28 @@ public final class AshLines {
             int movable = Math.min(orderings, MOST_DROPS);
             int all = (1 << movable) - 1;
             // What all of them can't mend, no fewer can.
-            if (untrueWithout(all) != 0) return UNSET;
+            if (!isOrderedWithout(all)) return UNSET;
             for (int size = 0; size < movable; size++) {
                 for (int set = 0; set < all; set++) {
-                    if (Integer.bitCount(set) == size && untrueWithout(set) == 0) return set;
+                    if (Integer.bitCount(set) == size && isOrderedWithout(set)) return set;
                 }
             }
             return all;
+        }
+
+        /** Whether no day is untrue then: asked of up to a thousand sets, so it goes a shorter way. */
+        private boolean isOrderedWithout(int leftOut) {
+            findOver(leftOut);
+            int left = (1 << DAYS) - 1;
+            for (int turn = 0; turn <= DAYS && left != 0; turn++) {
+                int before = left;
+                for (int day = 0; day < DAYS; day++) {
+                    if ((over[day] & left) == 0) left &= ~(1 << day);
+                }
+                // Days that all have another one above them go round.
+                if (left == before) return false;
+            }
+            return left == 0;
         }
 
         int daysNamed(int name) {
