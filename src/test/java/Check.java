@@ -1,5 +1,9 @@
+import java.util.Set;
+import java.util.TreeSet;
+
 /** Counts and prints answers that are not the ones that are due. */
 final class Check {
+    private final Set<Integer> promises = new TreeSet<>();
     private int asked = 0;
     private int wrong = 0;
 
@@ -13,6 +17,16 @@ final class Check {
 
     void so(String what, boolean is) {
         due(what, is ? 1 : 0, 1);
+    }
+
+    /** A test that begins with the number of its promise. */
+    void begins(String test) {
+        promises.add(Integer.valueOf(test.substring(0, test.indexOf(' '))));
+    }
+
+    /** Each of these promises must have been named by a test. */
+    void named(int from, int to) {
+        for (int promise = from; promise <= to; promise++) so("a test names promise " + promise, promises.contains(promise));
     }
 
     boolean isAllRight() {
