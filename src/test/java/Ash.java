@@ -46,6 +46,17 @@ final class Ash {
         return this;
     }
 
+    /** No slack, and leans of 0 for house 0: what it reads is what is true. */
+    Ash sharp() {
+        return tell("slack 0", "piece 0 0 50 50", "piece 0 1 50 50", "piece 0 2 50 50");
+    }
+
+    /** One grain of 50, 50, 50 by house 0 in each of these lines. */
+    Ash lines(int... lines) {
+        for (int line : lines) tell("grain " + line / 24 + " " + line % 24 + " 0 50 50 50");
+        return this;
+    }
+
     /** Says each sign of a text. */
     Ash say(String text) {
         for (int i = 0; i < text.length(); i++) tell("say " + (int) text.charAt(i));

@@ -10,6 +10,7 @@ public final class HousesEdgesTest {
     }
 
     public static void main(String[] args) {
+        constants();
         newObject();
         newObjectAgain();
         lastCall();
@@ -36,6 +37,17 @@ public final class HousesEdgesTest {
     }
 
     // ---- 1
+
+    private static void constants() {
+        check.due("the face: NONE", AshLines.NONE, -6);
+        check.due("the face: UNKNOWN", AshLines.UNKNOWN, -1);
+        check.due("the face: OUTSIDE", AshLines.OUTSIDE, -2);
+        check.due("the face: STATE", AshLines.STATE, -3);
+        check.due("the face: FULL", AshLines.FULL, -4);
+        check.due("the face: NO", AshLines.NO, -5);
+        check.due("the face: LOST", AshLines.LOST, -1000000000000000000L);
+        check.due("the face: GONE", AshLines.GONE, -1000000);
+    }
 
     private static void newObject() {
         Ash x = ash("1 a new object has nothing");
@@ -161,7 +173,8 @@ public final class HousesEdgesTest {
             ash("3 NO: the first difference that leaves none, below, SLACK " + slack).tell("slack " + slack)
                 .refuses("round 0 2 1 50 " + (51 + last), NO).is("told 1", 0).is("lean 0 1 1", 9).is("lean 2 1 0", -9);
         }
-        ash("3 read and by are 0 to 99").is("round 0 1 0 0 0", 1).is("round 0 1 1 99 99", 2).refuses("round 0 1 2 0 99", NO).refuses("round 0 1 2 99 0", NO);
+        ash("3 read and by are 0 to 99").is("round 0 1 0 0 0", 1).is("round 0 1 1 99 99", 2).refuses("round 0 1 2 0 99", NO)
+            .refuses("round 0 1 2 99 0", NO);
     }
 
     private static void roundOfOneHouse() {
@@ -179,17 +192,22 @@ public final class HousesEdgesTest {
     }
 
     private static void roundsInRings() {
-        ash("3 again and again till nothing changes: a ring that is off by one has nothing left").tell("slack 0", "round 0 1 0 51 50", "round 1 2 0 50 50")
+        ash("3 again and again till nothing changes: a ring that is off by one has nothing left")
+            .tell("slack 0", "round 0 1 0 51 50", "round 1 2 0 50 50")
             .refuses("round 2 0 0 50 50", NO).is("told 1", 2).is("lean 0 0 0", -8).is("lean 0 0 1", 9).is("lean 2 0 1", 8)
             .is("round 2 0 0 50 51", 3).is("lean 0 0 0", -8);
         ash("3 again and again: through two ROUND pieces, both ways").tell("slack 0", "round 1 2 0 50 50", "round 0 1 0 55 50")
             .is("lean 2 0 1", 4).is("lean 1 0 1", 4).is("lean 0 0 0", -4)
             .is("piece 2 0 50 53", 3).are(8, "lean 0 0 0", "lean 0 0 1").are(3, "lean 1 0 0", "lean 1 0 1");
-        ash("3 again and again: the least alone, then the greatest alone").tell("slack 0", "round 0 1 0 50 50", "round 1 2 0 50 50", "round 0 1 1 50 50", "slack 3", "piece 2 0 50 57")
-            .are(4, "lean 2 0 0", "lean 1 0 0", "lean 0 0 0").are(9, "lean 2 0 1", "lean 1 0 1", "lean 0 0 1").tell("piece 2 0 50 52").are(5, "lean 2 0 1", "lean 1 0 1", "lean 0 0 1").is("lean 0 0 0", 4).is("lean 0 1 0", -9);
-        ash("3 again and again: ROUND pieces of another STUFF after those that still move").tell("slack 0", "round 0 1 2 50 50", "round 1 2 2 50 50", "round 0 1 1 50 50", "round 2 1 0 50 50", "piece 2 2 50 53")
+        ash("3 again and again: the least alone, then the greatest alone")
+            .tell("slack 0", "round 0 1 0 50 50", "round 1 2 0 50 50", "round 0 1 1 50 50", "slack 3", "piece 2 0 50 57")
+            .are(4, "lean 2 0 0", "lean 1 0 0", "lean 0 0 0").are(9, "lean 2 0 1", "lean 1 0 1", "lean 0 0 1").tell("piece 2 0 50 52")
+            .are(5, "lean 2 0 1", "lean 1 0 1", "lean 0 0 1").is("lean 0 0 0", 4).is("lean 0 1 0", -9);
+        ash("3 again and again: ROUND pieces of another STUFF after those that still move")
+            .tell("slack 0", "round 0 1 2 50 50", "round 1 2 2 50 50", "round 0 1 1 50 50", "round 2 1 0 50 50", "piece 2 2 50 53")
             .are(3, "lean 0 2 0", "lean 0 2 1", "lean 1 2 0", "lean 1 2 1").are(-9, "lean 0 1 0", "lean 2 0 0");
-        ash("3 NO: against an earlier ROUND piece").tell("slack 0", "round 0 1 0 55 50").refuses("round 0 1 0 54 50", NO).refuses("round 1 0 0 51 55", NO)
+        ash("3 NO: against an earlier ROUND piece").tell("slack 0", "round 0 1 0 55 50").refuses("round 0 1 0 54 50", NO)
+            .refuses("round 1 0 0 51 55", NO)
             .is("round 1 0 0 50 55", 2);
         ash("3 NO: a refused one is not kept for later").tell("slack 0", "piece 0 0 50 50", "piece 1 0 50 50").refuses("round 0 1 0 51 50", NO)
             .is("round 0 2 0 50 50", 3).are(0, "lean 2 0 0", "lean 2 0 1");
@@ -217,7 +235,8 @@ public final class HousesEdgesTest {
     }
 
     private static void slackEnds() {
-        ash("5 SLACK 0 to 3; 1 at first; which it was").is("slack 0", 1).is("slack 3", 0).is("slack 3", 3).is("slack 2", 3).is("slack 1", 2).is("told 3", 1);
+        ash("5 SLACK 0 to 3; 1 at first; which it was").is("slack 0", 1).is("slack 3", 0).is("slack 3", 3).is("slack 2", 3).is("slack 1", 2)
+            .is("told 3", 1);
         ash("5 OUTSIDE").refuses("slack -1", OUTSIDE).refuses("slack 4", OUTSIDE).refuses("slack " + LEAST, OUTSIDE).refuses("slack " + MOST, OUTSIDE)
             .is("told 3", 1).is("slack 0", 1).refuses("slack 4", OUTSIDE).is("told 3", 0);
         ash("5 SLACK leaves the LEANS as they are").tell("piece 0 0 50 50", "slack 3").is("lean 0 0 0", -1).tell("slack 0").is("lean 0 0 1", 1);
@@ -244,7 +263,8 @@ public final class HousesEdgesTest {
             .refuses("grain 0 0 3 50 50 50", UNKNOWN).refuses("grain 0 0 -1 50 50 50", UNKNOWN)
             .refuses("grain " + LEAST + " 0 0 50 50 50", UNKNOWN).refuses("grain 0 " + MOST + " 0 50 50 50", UNKNOWN)
             .refuses("grain 0 0 " + LEAST + " 50 50 50", UNKNOWN).refuses("grain 178956971 0 0 50 50 50", UNKNOWN).is("told 0", 0);
-        ash("6 UNKNOWN ahead of OUTSIDE").refuses("grain 6 0 0 100 50 50", UNKNOWN).refuses("grain 0 24 0 50 -1 50", UNKNOWN).refuses("grain 0 0 3 50 50 100", UNKNOWN);
+        ash("6 UNKNOWN ahead of OUTSIDE").refuses("grain 6 0 0 100 50 50", UNKNOWN).refuses("grain 0 24 0 50 -1 50", UNKNOWN)
+            .refuses("grain 0 0 3 50 50 100", UNKNOWN);
         for (int place = 3; place < 6; place++) {
             for (int v : new int[] {-1, 100, LEAST, MOST}) {
                 int[] numbers = {0, 0, 0, 50, 50, 50};
@@ -255,7 +275,8 @@ public final class HousesEdgesTest {
             }
         }
         ash("6 a reading is 0 to 99").is("grain 0 0 0 0 0 0", 0).is("grain 5 23 2 99 99 99", 1).is("grains 0", 1).is("grains 143", 1);
-        ash("6 the first one after refusals has number 0").refuses("grain 6 0 0 0 0 0", UNKNOWN).refuses("grain 0 0 0 0 100 0", OUTSIDE).is("grain 0 0 0 0 0 0", 0);
+        ash("6 the first one after refusals has number 0").refuses("grain 6 0 0 0 0 0", UNKNOWN).refuses("grain 0 0 0 0 100 0", OUTSIDE)
+            .is("grain 0 0 0 0 0 0", 0);
     }
 
     // ---- 7
@@ -276,12 +297,14 @@ public final class HousesEdgesTest {
 
     private static void trueRefused() {
         ash("7 UNKNOWN: no such GRAIN, none yet").refuses("truly 0 0 0", GONE - 1).refuses("truly -1 0 0", GONE - 1).refuses("truly 0 3 2", GONE - 1);
-        ash("7 UNKNOWN: no such GRAIN, one").tell("grain 0 0 0 50 50 50").is("truly 0 0 0", 40).refuses("truly 1 0 0", GONE - 1).refuses("truly -1 0 0", GONE - 1)
+        ash("7 UNKNOWN: no such GRAIN, one").tell("grain 0 0 0 50 50 50").is("truly 0 0 0", 40).refuses("truly 1 0 0", GONE - 1)
+            .refuses("truly -1 0 0", GONE - 1)
             .refuses("truly " + LEAST + " 0 0", GONE - 1).refuses("truly " + MOST + " 3 2", GONE - 1);
         ash("7 UNKNOWN: no such GRAIN, sixty").tell(60, "grain 0 0 0 50 50 50").is("truly 59 2 1", 60).refuses("truly 60 0 0", GONE - 1);
         ash("7 OUTSIDE (GONE less 2)").tell("grain 0 0 0 50 50 50").refuses("truly 0 3 0", GONE - 2).refuses("truly 0 -1 0", GONE - 2)
             .refuses("truly 0 0 2", GONE - 2).refuses("truly 0 0 -1", GONE - 2).refuses("truly 0 " + MOST + " " + LEAST, GONE - 2);
-        ash("7 an end may be as a refusal is").tell("slack 0", "piece 0 0 50 51", "piece 0 1 50 52", "grain 0 0 0 0 0 0").is("truly 0 0 0", -1).is("truly 0 1 1", -2);
+        ash("7 an end may be as a refusal is").tell("slack 0", "piece 0 0 50 51", "piece 0 1 50 52", "grain 0 0 0 0 0 0").is("truly 0 0 0", -1)
+            .is("truly 0 1 1", -2);
     }
 
     // ---- 8 and 9
@@ -289,7 +312,8 @@ public final class HousesEdgesTest {
     private static void grainsOfALine() {
         ash("8 UNKNOWN: 0 to 143").is("grains 0", 0).is("grains 143", 0).refuses("grains -1", UNKNOWN).refuses("grains 144", UNKNOWN)
             .refuses("grains " + LEAST, UNKNOWN).refuses("grains " + MOST, UNKNOWN);
-        ash("8 a LINE is 24 times the CORE, and the INCH").tell("grain 0 23 0 50 50 50", "grain 1 0 0 50 50 50", "grain 1 0 0 50 50 50", "grain 5 0 0 50 50 50")
+        ash("8 a LINE is 24 times the CORE, and the INCH")
+            .tell("grain 0 23 0 50 50 50", "grain 1 0 0 50 50 50", "grain 1 0 0 50 50 50", "grain 5 0 0 50 50 50")
             .is("grains 22", 0).is("grains 23", 1).is("grains 24", 2).is("grains 25", 0).is("grains 120", 1).is("grains 5", 0);
     }
 
@@ -297,7 +321,8 @@ public final class HousesEdgesTest {
         ash("9 UNKNOWN: also it has no GRAINS").refuses("glass 0 0 0", GONE - 1).refuses("glass 0 3 2", GONE - 1).tell("grain 0 0 0 50 50 50")
             .is("glass 0 0 0", 40).refuses("glass 1 0 0", GONE - 1).refuses("glass -1 0 0", GONE - 1).refuses("glass 144 0 0", GONE - 1)
             .refuses("glass " + LEAST + " 3 0", GONE - 1).refuses("glass " + MOST + " 0 2", GONE - 1);
-        ash("9 OUTSIDE (GONE less 2)").tell("grain 5 23 0 50 50 50").is("glass 143 2 1", 60).refuses("glass 143 3 0", GONE - 2).refuses("glass 143 -1 0", GONE - 2)
+        ash("9 OUTSIDE (GONE less 2)").tell("grain 5 23 0 50 50 50").is("glass 143 2 1", 60).refuses("glass 143 3 0", GONE - 2)
+            .refuses("glass 143 -1 0", GONE - 2)
             .refuses("glass 143 0 2", GONE - 2).refuses("glass 143 0 -1", GONE - 2).refuses("glass 143 " + LEAST + " " + MOST, GONE - 2);
         ash("9 GLASS of one GRAIN is TRUE of it").tell("grain 0 0 0 0 99 50").is("glass 0 0 0", -10).is("glass 0 0 1", 10).is("glass 0 1 0", 89)
             .is("glass 0 1 1", 109).is("glass 0 2 0", 40).is("glass 0 2 1", 60);
@@ -305,8 +330,10 @@ public final class HousesEdgesTest {
             .tell("grain 0 0 0 50 0 0", "grain 0 0 1 50 0 0").is("glass 0 0 0", 47).is("glass 0 0 1", 50)
             .tell("grain 0 0 0 49 0 0").is("glass 0 0 0", 47).is("glass 0 0 1", 50).tell("grain 0 0 0 51 0 0").is("glass 0 0 1", 51)
             .tell("grain 0 1 0 99 0 0").is("glass 0 0 1", 51).is("glass 1 0 0", 99).tell("slack 3").is("glass 0 0 0", 44).is("glass 0 0 1", 54);
-        ash("9 PIECES, ROUND pieces and SLACK that come after the GRAINS").tell("grain 0 0 0 50 50 50", "grain 5 23 1 50 50 50").is("glass 0 0 0", 40).tell("slack 0").is("glass 0 0 0", 41)
-            .tell("piece 0 0 50 53").are(47, "glass 0 0 0", "glass 0 0 1").is("glass 143 0 0", 41).tell("round 1 0 0 50 50").are(47, "glass 143 0 0", "glass 143 0 1")
+        ash("9 PIECES, ROUND pieces and SLACK that come after the GRAINS").tell("grain 0 0 0 50 50 50", "grain 5 23 1 50 50 50").is("glass 0 0 0", 40)
+            .tell("slack 0").is("glass 0 0 0", 41)
+            .tell("piece 0 0 50 53").are(47, "glass 0 0 0", "glass 0 0 1").is("glass 143 0 0", 41).tell("round 1 0 0 50 50")
+            .are(47, "glass 143 0 0", "glass 143 0 1")
             .is("piece 0 0 50 52", NO).is("round 0 1 0 51 50", NO).are(47, "glass 0 0 0", "glass 143 0 1");
         ash("9 the last of sixty GRAINS counts").tell("slack 0", "piece 0 0 50 50").tell(59, "grain 2 2 0 50 50 50").tell("grain 2 2 0 99 50 50")
             .is("glass 50 0 0", 50).is("glass 50 0 1", 99);

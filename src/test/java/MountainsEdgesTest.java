@@ -9,9 +9,8 @@ public final class MountainsEdgesTest {
         return new Ash(check, test);
     }
 
-    /** No slack and leans of 0 for house 0: what is read is what is true. */
     private static Ash sharp(String test) {
-        return ash(test).tell("slack 0", "piece 0 0 50 50", "piece 0 1 50 50", "piece 0 2 50 50");
+        return ash(test).sharp();
     }
 
     public static void main(String[] args) {
@@ -36,14 +35,18 @@ public final class MountainsEdgesTest {
 
     private static void mountainsTold() {
         Ash x = ash("18 told: 1 (0: it was there); none at first").is("told 5", 0);
-        for (int m = 0; m < 6; m++) x.is("mountain " + m + " 0 0 0 0", 1).is("told 5", (2 << m) - 1).is("mountain " + m + " 99 99 99 5", 0).is("told 5", (2 << m) - 1);
+        for (int m = 0; m < 6; m++) {
+            x.is("mountain " + m + " 0 0 0 0", 1).is("told 5", (2 << m) - 1).is("mountain " + m + " 99 99 99 5", 0)
+                .is("told 5", (2 << m) - 1);
+        }
         ash("18 the last one alone").is("mountain 5 0 99 0 5", 1).is("told 5", 32).is("way 5 0", NONE).is("way 4 0", UNKNOWN);
         sharp("18 told anew: its numbers and its WANDER are new").tell("grain 0 0 0 50 50 50", "mountain 0 50 50 50 5").is("weight 0 0", 729)
             .is("mountain 0 51 52 53 0", 0).is("weight 0 0", 8 * 7 * 6).is("mountain 0 51 52 53 1", 0).is("weight 0 0", 9 * 8 * 7);
     }
 
     private static void mountainRefused() {
-        ash("18 UNKNOWN").refuses("mountain 6 50 50 50 0", UNKNOWN).refuses("mountain -1 50 50 50 0", UNKNOWN).refuses("mountain " + LEAST + " 50 50 50 0", UNKNOWN)
+        ash("18 UNKNOWN").refuses("mountain 6 50 50 50 0", UNKNOWN).refuses("mountain -1 50 50 50 0", UNKNOWN)
+            .refuses("mountain " + LEAST + " 50 50 50 0", UNKNOWN)
             .refuses("mountain " + MOST + " 50 50 50 0", UNKNOWN).refuses("mountain 6 100 -1 100 6", UNKNOWN).is("told 5", 0);
         Ash x = ash("18 OUTSIDE").tell("mountain 1 50 50 50 2");
         for (int m = 0; m < 2; m++) {
@@ -59,7 +62,8 @@ public final class MountainsEdgesTest {
     // ---- 19
 
     private static void places() {
-        ash("19 100 times x, and y, as it was").is("place 0 0 20 20", 0).is("place 0 0 20 0", 2020).is("place 0 0 0 20", 2000).is("place 0 0 0 0", 20).is("place 0 0 1 1", 0)
+        ash("19 100 times x, and y, as it was").is("place 0 0 20 20", 0).is("place 0 0 20 0", 2020).is("place 0 0 0 20", 2000).is("place 0 0 0 0", 20)
+            .is("place 0 0 1 1", 0)
             .is("place 1 5 20 20", 0).is("place 1 5 20 0", 2020).is("place 1 5 0 20", 2000).is("place 1 5 0 0", 20).is("place 1 5 1 1", 0);
         Ash x = ash("19 each MOUNTAIN and each CORE has its own");
         for (int i = 0; i < 12; i++) x.is("place " + i / 6 + " " + i % 6 + " " + i + " " + (20 - i), 0);
@@ -69,15 +73,20 @@ public final class MountainsEdgesTest {
     }
 
     private static void placeRefused() {
-        ash("19 OUTSIDE: what (ahead)").refuses("place 2 0 0 0", OUTSIDE).refuses("place -1 0 0 0", OUTSIDE).refuses("place 2 6 0 0", OUTSIDE).refuses("place -1 -1 21 21", OUTSIDE)
+        ash("19 OUTSIDE: what (ahead)").refuses("place 2 0 0 0", OUTSIDE).refuses("place -1 0 0 0", OUTSIDE).refuses("place 2 6 0 0", OUTSIDE)
+            .refuses("place -1 -1 21 21", OUTSIDE)
             .refuses("place " + LEAST + " 6 0 0", OUTSIDE).refuses("place " + MOST + " 6 0 0", OUTSIDE);
         for (int what = 0; what < 2; what++) {
             Ash x = ash("19 UNKNOWN: i 0 to 5, of " + what).tell("place " + what + " 0 3 4", "place " + what + " 5 5 6");
-            for (int i : new int[] {-1, 6, LEAST, MOST}) x.refuses("place " + what + " " + i + " 0 0", UNKNOWN).refuses("place " + what + " " + i + " 21 -1", UNKNOWN);
+            for (int i : new int[] {-1, 6, LEAST, MOST}) {
+                x.refuses("place " + what + " " + i + " 0 0", UNKNOWN)
+                    .refuses("place " + what + " " + i + " 21 -1", UNKNOWN);
+            }
             x.is("place " + what + " 0 0 0", 304).is("place " + what + " 5 0 0", 506);
             x = ash("19 OUTSIDE: x, y 0 to 20, of " + what).tell("place " + what + " 2 3 4");
             for (int v : new int[] {-1, 21, LEAST, MOST}) {
-                x.refuses("place " + what + " 2 " + v + " 0", OUTSIDE).refuses("place " + what + " 2 0 " + v, OUTSIDE).refuses("place " + what + " 2 " + v + " " + v, OUTSIDE);
+                x.refuses("place " + what + " 2 " + v + " 0", OUTSIDE).refuses("place " + what + " 2 0 " + v, OUTSIDE)
+                    .refuses("place " + what + " 2 " + v + " " + v, OUTSIDE);
             }
             x.is("place " + what + " 2 0 0", 304);
         }
@@ -96,8 +105,10 @@ public final class MountainsEdgesTest {
                 }
             }
         }
-        sharp("20 these times one another: 729 at most, 1 at least if not 0").tell("grain 0 0 0 50 50 50", "mountain 0 50 50 50 0").is("weight 0 0", 729)
-            .tell("mountain 0 58 42 58 0").is("weight 0 0", 1).tell("mountain 0 59 50 50 0").is("weight 0 0", 0).tell("mountain 0 59 59 59 0").is("weight 0 0", 0)
+        sharp("20 these times one another: 729 at most, 1 at least if not 0").tell("grain 0 0 0 50 50 50", "mountain 0 50 50 50 0")
+            .is("weight 0 0", 729)
+            .tell("mountain 0 58 42 58 0").is("weight 0 0", 1).tell("mountain 0 59 50 50 0").is("weight 0 0", 0).tell("mountain 0 59 59 59 0")
+            .is("weight 0 0", 0)
             .tell("mountain 0 60 60 50 0").is("weight 0 0", 0);
     }
 
@@ -121,7 +132,8 @@ public final class MountainsEdgesTest {
             .tell("mountain 0 58 50 50 0").is("weight 0 0", 81).tell("mountain 0 59 50 50 0").is("weight 0 0", 0)
             .tell("mountain 0 41 50 50 0").is("weight 0 0", 81).tell("mountain 0 40 50 50 0").is("weight 0 0", 0)
             .tell("mountain 0 51 50 50 1").is("weight 0 0", 729).tell("mountain 0 52 50 50 1").is("weight 0 0", 8 * 81);
-        ash("20 TRUE below 0 and beyond 99").tell("slack 0", "piece 0 0 50 59", "piece 0 1 50 41", "piece 0 2 50 50", "grain 0 0 0 0 99 50", "mountain 0 0 99 50 0")
+        ash("20 TRUE below 0 and beyond 99")
+            .tell("slack 0", "piece 0 0 50 59", "piece 0 1 50 41", "piece 0 2 50 50", "grain 0 0 0 0 99 50", "mountain 0 0 99 50 0")
             .is("truly 0 0 0", -9).is("truly 0 1 1", 108).is("weight 0 0", 0).tell("mountain 0 0 99 50 1").is("weight 0 0", 9);
     }
 
@@ -129,7 +141,8 @@ public final class MountainsEdgesTest {
         ash("20 UNKNOWN: no GRAINS, no MOUNTAINS").refuses("weight 0 0", UNKNOWN);
         ash("20 UNKNOWN: no MOUNTAIN told").tell("grain 0 0 0 50 50 50").refuses("weight 0 0", UNKNOWN).refuses("weight 0 5", UNKNOWN);
         ash("20 UNKNOWN: no GRAIN").tell("mountain 0 50 50 50 0").refuses("weight 0 0", UNKNOWN);
-        Ash x = ash("20 UNKNOWN").tell("grain 0 0 0 50 50 50", "grain 0 0 0 50 50 50", "mountain 0 50 50 50 0", "mountain 5 50 50 50 0").is("weight 1 5", 729);
+        Ash x = ash("20 UNKNOWN").tell("grain 0 0 0 50 50 50", "grain 0 0 0 50 50 50", "mountain 0 50 50 50 0", "mountain 5 50 50 50 0")
+            .is("weight 1 5", 729);
         for (int v : new int[] {-1, 2, 60, LEAST, MOST}) x.refuses("weight " + v + " 0", UNKNOWN);
         for (int v : new int[] {-1, 1, 4, 6, LEAST, MOST}) x.refuses("weight 0 " + v, UNKNOWN);
         x.refuses("weight 2 1", UNKNOWN);
@@ -147,26 +160,35 @@ public final class MountainsEdgesTest {
                 nine *= 9;
                 eight *= 8;
             }
-            x.is("whose 0 0 0", nine).is("whose 0 0 1", nine + eight).is("whose 0 1 0", eight).is("whose 1 1 0", nine).is("whose 1 0 1", nine + eight);
+            x.is("whose 0 0 0", nine).is("whose 0 0 1", nine + eight).is("whose 0 1 0", eight).is("whose 1 1 0", nine)
+                .is("whose 1 0 1", nine + eight);
         }
-        sharp("21 the fifth may be none of a MOUNTAIN's").tell("mountain 0 50 50 50 0", "mountain 1 58 50 50 0").tell(4, "grain 0 0 0 54 50 50").is("whose 0 0 0", 1).is("whose 0 0 1", 2)
+        sharp("21 the fifth may be none of a MOUNTAIN's").tell("mountain 0 50 50 50 0", "mountain 1 58 50 50 0").tell(4, "grain 0 0 0 54 50 50")
+            .is("whose 0 0 0", 1).is("whose 0 0 1", 2)
             .tell("grain 0 0 0 67 50 50").is("whose 0 0 0", 0).is("whose 0 0 1", 1).is("whose 0 1 0", 0);
-        sharp("21 the sixth may be none of any").tell("mountain 0 50 50 50 0").tell(5, "grain 0 0 0 50 50 50").tell("grain 0 0 0 99 99 99").is("whose 0 0 0", 1).is("whose 0 0 1", 1);
-        sharp("21 the first by their numbers, other LINES' between them").tell("mountain 0 50 50 50 0", "mountain 1 51 50 50 0").tell("grain 0 0 0 50 50 50").tell(9, "grain 0 1 0 51 50 50")
+        sharp("21 the sixth may be none of any").tell("mountain 0 50 50 50 0").tell(5, "grain 0 0 0 50 50 50").tell("grain 0 0 0 99 99 99")
+            .is("whose 0 0 0", 1).is("whose 0 0 1", 1);
+        sharp("21 the first by their numbers, other LINES' between them").tell("mountain 0 50 50 50 0", "mountain 1 51 50 50 0")
+            .tell("grain 0 0 0 50 50 50").tell(9, "grain 0 1 0 51 50 50")
             .tell("grain 0 0 0 50 50 50").is("whose 0 0 0", 81).is("whose 0 0 1", 145);
     }
 
     private static void whoseNone() {
-        sharp("21 0 by 1 for none: no MOUNTAIN has a WEIGHT").tell("grain 0 0 0 50 50 50", "mountain 0 99 99 99 0", "mountain 1 0 0 0 5").is("whose 0 0 0", 0).is("whose 0 0 1", 1)
+        sharp("21 0 by 1 for none: no MOUNTAIN has a WEIGHT").tell("grain 0 0 0 50 50 50", "mountain 0 99 99 99 0", "mountain 1 0 0 0 5")
+            .is("whose 0 0 0", 0).is("whose 0 0 1", 1)
             .is("whose 0 1 0", 0).is("whose 0 1 1", 1);
-        sharp("21 0 by 1 for none: others have one").tell("grain 0 0 0 50 50 50", "mountain 0 99 99 99 0", "mountain 1 50 50 50 5").is("whose 0 0 0", 0).is("whose 0 0 1", 1)
+        sharp("21 0 by 1 for none: others have one").tell("grain 0 0 0 50 50 50", "mountain 0 99 99 99 0", "mountain 1 50 50 50 5")
+            .is("whose 0 0 0", 0).is("whose 0 0 1", 1)
             .is("whose 0 1 0", 1).is("whose 0 1 1", 1);
         sharp("21 a MOUNTAIN alone").tell("grain 0 0 0 50 50 50", "mountain 3 58 58 58 0").is("whose 0 3 0", 1).is("whose 0 3 1", 1);
     }
 
     private static void whoseLowestTerms() {
         Ash x = sharp("21 in lowest terms").tell("grain 0 0 0 50 50 50", "mountain 0 50 50 50 0");
-        for (int m = 1; m < 6; m++) x.tell("mountain " + m + " 50 50 50 0").is("whose 0 0 0", 1).is("whose 0 0 1", m + 1).is("whose 0 " + m + " 1", m + 1);
+        for (int m = 1; m < 6; m++) {
+            x.tell("mountain " + m + " 50 50 50 0").is("whose 0 0 0", 1).is("whose 0 0 1", m + 1)
+                .is("whose 0 " + m + " 1", m + 1);
+        }
         x.tell("mountain 5 53 50 50 0").is("whose 0 0 0", 3).is("whose 0 0 1", 17).is("whose 0 5 0", 2).is("whose 0 5 1", 17);
         x.tell("mountain 5 56 50 50 0").is("whose 0 5 0", 1).is("whose 0 5 1", 16);
     }
@@ -176,11 +198,13 @@ public final class MountainsEdgesTest {
         // Five times 729 and 512: nothing in common, so nothing is shortened.
         x.tell("mountain 1 51 51 51 0").is("whose 0 0 0", 205891132094649L).is("whose 0 0 1", 241075504183481L).is("whose 0 1 0", 35184372088832L);
         for (int m = 2; m < 6; m++) x.tell("mountain " + m + " 50 50 50 0");
-        x.is("whose 0 0 0", 205891132094649L).is("whose 0 0 1", 1064640032562077L).is("whose 0 1 0", 35184372088832L).is("whose 0 1 1", 1064640032562077L);
+        x.is("whose 0 0 0", 205891132094649L).is("whose 0 0 1", 1064640032562077L).is("whose 0 1 0", 35184372088832L)
+            .is("whose 0 1 1", 1064640032562077L);
     }
 
     private static void whoseRefused() {
-        Ash x = ash("21 UNKNOWN (LOST less 1)").tell("grain 0 0 0 50 50 50").refuses("whose 0 0 0", LOST - 1).refuses("whose 0 0 2", LOST - 1).tell("mountain 0 50 50 50 0", "mountain 5 50 50 50 0");
+        Ash x = ash("21 UNKNOWN (LOST less 1)").tell("grain 0 0 0 50 50 50").refuses("whose 0 0 0", LOST - 1).refuses("whose 0 0 2", LOST - 1)
+            .tell("mountain 0 50 50 50 0", "mountain 5 50 50 50 0");
         for (int v : new int[] {-1, 1, 143, 144, LEAST, MOST}) x.refuses("whose " + v + " 0 0", LOST - 1).refuses("whose " + v + " 0 2", LOST - 1);
         for (int v : new int[] {-1, 1, 4, 6, LEAST, MOST}) x.refuses("whose 0 " + v + " 0", LOST - 1).refuses("whose 0 " + v + " -1", LOST - 1);
         x = ash("21 OUTSIDE (LOST less 2)").tell("grain 0 0 0 50 50 50", "mountain 0 50 50 50 0");

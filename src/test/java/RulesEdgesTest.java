@@ -12,9 +12,8 @@ public final class RulesEdgesTest {
         return new Ash(check, test);
     }
 
-    /** No slack and leans of 0 for house 0: what is read is what is true. */
     private static Ash sharp(String test) {
-        return ash(test).tell("slack 0", "piece 0 0 50 50", "piece 0 1 50 50", "piece 0 2 50 50");
+        return ash(test).sharp();
     }
 
     public static void main(String[] args) {
@@ -63,7 +62,8 @@ public final class RulesEdgesTest {
         Ash x = ash("11 there were fifty, and fifty can be said again").tell(50, "say 126").is("wipe", 50).is("told 2", 0).is("fault", 0);
         for (int i = 1; i <= 50; i++) x.is("say 33", i);
         x.refuses("say 33", FULL).is("wipe", 50);
-        ash("11 signs go, the RULE stays").tell("grain 0 0 0 50 50 50", "grain 0 1 0 50 50 50").rule("a<1|b<1").say("a<").is("wipe", 2).is("told 6", 2)
+        ash("11 signs go, the RULE stays").tell("grain 0 0 0 50 50 50", "grain 0 1 0 50 50 50").rule("a<1|b<1").say("a<").is("wipe", 2)
+            .is("told 6", 2)
             .is("alike 0 1", 1).is("wipe", 0).is("told 6", 2);
         ash("11 what was wiped is not in the next RULE").say("a<1|").is("wipe", 4).say("b<1").is("rule", 1).is("wipe", 0);
     }
@@ -120,7 +120,8 @@ public final class RulesEdgesTest {
         ash("13 NO: there is a FAULT, no signs").refuses("rule", NO).is("told 6", 0).is("broken", STATE);
         ash("13 NO: there is a FAULT, a sign that can not stand").say("a<x").refuses("rule", NO).is("told 2", 3).is("fault", 2).is("told 6", 0);
         ash("13 NO: there is a FAULT, more must come").say("a<1&").refuses("rule", NO).is("told 2", 4).is("told 6", 0).say("b<1").is("rule", 1);
-        ash("13 NO: the RULE that was stays").tell("grain 0 0 0 50 50 50", "grain 0 1 0 50 50 50").rule("a<1|b<1|c<1").say("a>9|a").refuses("rule", NO)
+        ash("13 NO: the RULE that was stays").tell("grain 0 0 0 50 50 50", "grain 0 1 0 50 50 50").rule("a<1|b<1|c<1").say("a>9|a")
+            .refuses("rule", NO)
             .is("told 6", 3).is("alike 0 1", 1).is("told 2", 5);
         ash("13 NO: once more without signs").rule("a<1|b<1").refuses("rule", NO).is("told 6", 2);
     }
@@ -129,44 +130,56 @@ public final class RulesEdgesTest {
         ash("13 the RULE is the signs', they are empty then").say("a<1").is("rule", 1).is("told 2", 0).is("wipe", 0).is("told 6", 1);
         ash("13 a RULE in place of another").tell("grain 0 0 0 50 50 50", "grain 0 1 0 50 50 50").rule("a<1|b<1").is("alike 0 1", 1)
             .rule("a>0").is("told 6", 1).is("alike 0 1", 0).rule("a=0&b=0|g>9").is("told 6", 2).is("alike 0 1", 1);
-        ash("13 a shorter RULE keeps nothing of a longer one").tell("grain 0 0 0 50 50 50", "grain 0 1 0 50 50 50").rule("a>99|b>99|c>99|a=0").is("alike 0 1", 1)
+        ash("13 a shorter RULE keeps nothing of a longer one").tell("grain 0 0 0 50 50 50", "grain 0 1 0 50 50 50").rule("a>99|b>99|c>99|a=0")
+            .is("alike 0 1", 1)
             .rule("a>99").is("alike 0 1", 0).rule("a=999").is("alike 0 1", 0).rule("a=0").is("alike 0 1", 1);
-        ash("13 said signs are not yet the RULE").tell("grain 0 0 0 50 50 50", "grain 0 1 0 50 50 50").rule("a<1").say("a>9").is("alike 0 1", 1).is("rule", 1).is("alike 0 1", 0);
+        ash("13 said signs are not yet the RULE").tell("grain 0 0 0 50 50 50", "grain 0 1 0 50 50 50").rule("a<1").say("a>9").is("alike 0 1", 1)
+            .is("rule", 1).is("alike 0 1", 0);
     }
 
     private static void bothsCounted() {
         ash("13 BOTHS: one").say("a<1&b<1&c<1").is("rule", 1).is("told 6", 1);
         ash("13 BOTHS: two").say("a<1&b<1|c<1").is("rule", 2).is("told 6", 2);
-        ash("13 BOTHS: twelve fit into fifty signs").say("a<1|a<1|a<1|a<1|a<1|a<1|a<1|a<1|a<1|a<1|a<11|a<111").is("told 2", 50).is("rule", 12).is("told 6", 12);
+        ash("13 BOTHS: twelve fit into fifty signs").say("a<1|a<1|a<1|a<1|a<1|a<1|a<1|a<1|a<1|a<1|a<11|a<111").is("told 2", 50).is("rule", 12)
+            .is("told 6", 12);
         ash("13 BOTHS: one of twelve TESTS").say(FIFTY).is("rule", 1).is("told 6", 1);
     }
 
     // ---- 14
 
     private static void gapOfSpans() {
-        sharp("14 GAP: 0, if some number is in both").tell("grain 0 0 0 50 10 20", "grain 0 0 0 60 20 20", "grain 0 1 0 60 20 30", "grain 0 1 0 70 15 10")
+        sharp("14 GAP: 0, if some number is in both")
+            .tell("grain 0 0 0 50 10 20", "grain 0 0 0 60 20 20", "grain 0 1 0 60 20 30", "grain 0 1 0 70 15 10")
             .are(0, "gap 0 1 0", "gap 1 0 0", "gap 0 1 1", "gap 1 0 1", "gap 0 1 2", "gap 1 0 2");
-        sharp("14 GAP: the greater one's least less the other one's greatest").tell("grain 0 0 0 50 10 0", "grain 0 0 0 60 20 0", "grain 0 1 0 61 5 99", "grain 0 1 0 70 9 99")
+        sharp("14 GAP: the greater one's least less the other one's greatest")
+            .tell("grain 0 0 0 50 10 0", "grain 0 0 0 60 20 0", "grain 0 1 0 61 5 99", "grain 0 1 0 70 9 99")
             .are(1, "gap 0 1 0", "gap 1 0 0", "gap 0 1 1", "gap 1 0 1").are(99, "gap 0 1 2", "gap 1 0 2");
-        ash("14 GAP by LEANS that are not known").tell("grain 0 0 0 0 50 50", "grain 5 23 2 99 50 69", "slack 0").is("gap 0 143 0", 81).is("gap 0 143 1", 0)
+        ash("14 GAP by LEANS that are not known").tell("grain 0 0 0 0 50 50", "grain 5 23 2 99 50 69", "slack 0").is("gap 0 143 0", 81)
+            .is("gap 0 143 1", 0)
             .is("gap 0 143 2", 1).tell("slack 1").is("gap 0 143 2", 0).tell("slack 3").is("gap 143 0 0", 75);
     }
 
     private static void gapOfAges() {
-        ash("14 GAP of AGES: at most 9999").tell("grain 0 0 0 50 50 50", "grain 5 23 0 50 50 50").is("gap 0 143 3", 0).tell("age 1 0 0 0", "age 1 143 9999 9999")
+        ash("14 GAP of AGES: at most 9999").tell("grain 0 0 0 50 50 50", "grain 5 23 0 50 50 50").is("gap 0 143 3", 0)
+            .tell("age 1 0 0 0", "age 1 143 9999 9999")
             .are(9999, "gap 0 143 3", "gap 143 0 3");
-        ash("14 GAP of AGES: touching, and one year apart").tell("grain 0 0 0 50 50 50", "grain 1 0 0 50 50 50").tell("age 1 0 5 10", "age 1 24 10 20").is("gap 0 24 3", 0)
+        ash("14 GAP of AGES: touching, and one year apart").tell("grain 0 0 0 50 50 50", "grain 1 0 0 50 50 50")
+            .tell("age 1 0 5 10", "age 1 24 10 20").is("gap 0 24 3", 0)
             .tell("age 1 24 11 20").is("gap 0 24 3", 1).is("gap 24 0 3", 1);
-        ash("14 GAP of AGES in THE NET, not as told").tell("grain 0 5 0 50 50 50", "grain 1 0 0 50 50 50", "age 1 4 100 200", "age 1 24 0 70").is("gap 5 24 3", 30);
+        ash("14 GAP of AGES in THE NET, not as told").tell("grain 0 5 0 50 50 50", "grain 1 0 0 50 50 50", "age 1 4 100 200", "age 1 24 0 70")
+            .is("gap 5 24 3", 30);
     }
 
     private static void gapRefused() {
         Ash x = ash("14 UNKNOWN: not two LINES, both are one").tell("grain 0 0 0 50 50 50", "grain 5 23 0 50 50 50");
-        x.refuses("gap 0 0 0", UNKNOWN).refuses("gap 143 143 3", UNKNOWN).refuses("gap 0 1 0", UNKNOWN).refuses("gap 1 0 0", UNKNOWN).refuses("gap 1 1 0", UNKNOWN)
-            .refuses("gap -1 0 0", UNKNOWN).refuses("gap 0 144 0", UNKNOWN).refuses("gap " + LEAST + " 0 0", UNKNOWN).refuses("gap 0 " + MOST + " 0", UNKNOWN);
+        x.refuses("gap 0 0 0", UNKNOWN).refuses("gap 143 143 3", UNKNOWN).refuses("gap 0 1 0", UNKNOWN).refuses("gap 1 0 0", UNKNOWN)
+            .refuses("gap 1 1 0", UNKNOWN)
+            .refuses("gap -1 0 0", UNKNOWN).refuses("gap 0 144 0", UNKNOWN).refuses("gap " + LEAST + " 0 0", UNKNOWN)
+            .refuses("gap 0 " + MOST + " 0", UNKNOWN);
         x.refuses("gap 0 0 4", UNKNOWN).refuses("gap 0 1 -1", UNKNOWN).is("gap 0 143 0", 0).is("gap 0 143 3", 0);
         x = ash("14 OUTSIDE: STUFFS 0 to 2, 3").tell("grain 0 0 0 50 50 50", "grain 5 23 0 50 50 50");
-        x.refuses("gap 0 143 4", OUTSIDE).refuses("gap 0 143 -1", OUTSIDE).refuses("gap 0 143 " + LEAST, OUTSIDE).refuses("gap 0 143 " + MOST, OUTSIDE);
+        x.refuses("gap 0 143 4", OUTSIDE).refuses("gap 0 143 -1", OUTSIDE).refuses("gap 0 143 " + LEAST, OUTSIDE)
+            .refuses("gap 0 143 " + MOST, OUTSIDE);
         x = ash("14 NO: CLASH (3)").tell("grain 0 0 0 50 50 50", "grain 5 23 0 50 50 50", "age 1 60 5 5", "age 1 61 4 4");
         x.refuses("gap 0 143 3", NO).refuses("gap 0 143 4", OUTSIDE).refuses("gap 0 0 3", UNKNOWN).are(0, "gap 0 143 0", "gap 0 143 1", "gap 0 143 2")
             .tell("age 1 61 5 5").is("gap 0 143 3", 0);
@@ -254,10 +267,12 @@ public final class RulesEdgesTest {
         x.say("a<9&").is("rule", NO).refuses("alike 0 24", STATE).say("b").refuses("alike 0 24", STATE);
         two("15 STATE ahead of NO").tell("age 1 60 5 5", "age 1 61 4 4").refuses("alike 0 24", STATE);
         x = two("15 UNKNOWN, likewise").rule("a<9");
-        x.refuses("alike 0 0", UNKNOWN).refuses("alike 0 1", UNKNOWN).refuses("alike 1 0", UNKNOWN).refuses("alike 23 24", UNKNOWN).refuses("alike -1 0", UNKNOWN)
+        x.refuses("alike 0 0", UNKNOWN).refuses("alike 0 1", UNKNOWN).refuses("alike 1 0", UNKNOWN).refuses("alike 23 24", UNKNOWN)
+            .refuses("alike -1 0", UNKNOWN)
             .refuses("alike 0 144", UNKNOWN).refuses("alike " + LEAST + " 0", UNKNOWN).refuses("alike 0 " + MOST, UNKNOWN).is("alike 0 24", 1);
         x = two("15 NO: CLASH (if the RULE has a y)").tell("age 1 60 5 5", "age 1 61 4 4").rule("a<9").is("alike 0 24", 1).rule("a<9|y<9");
-        x.refuses("alike 0 24", NO).refuses("alike 0 1", UNKNOWN).refuses("alike 24 24", UNKNOWN).rule("a>9&y<9").refuses("alike 0 24", NO).rule("a>9").is("alike 0 24", 0);
+        x.refuses("alike 0 24", NO).refuses("alike 0 1", UNKNOWN).refuses("alike 24 24", UNKNOWN).rule("a>9&y<9").refuses("alike 0 24", NO)
+            .rule("a>9").is("alike 0 24", 0);
         x.rule("y=0").refuses("alike 0 24", NO).tell("age 1 61 5 5").is("alike 0 24", 1);
         two("15 no CLASH by said signs that have a y").tell("age 1 60 5 5", "age 1 61 4 4").rule("a<9").say("y<9").is("alike 0 24", 1);
     }
@@ -266,7 +281,8 @@ public final class RulesEdgesTest {
 
     private static void chainEnds() {
         sharp("16 a LINE alone").tell("grain 5 23 0 50 50 50").rule("a<1").is("chain 143 -1", 1).is("chain 143 0", 143).is("chain 143 1", NONE);
-        Ash x = sharp("16 the i-th by numbers; NONE").tell("grain 5 23 0 14 0 0", "grain 0 0 0 12 0 0", "grain 2 5 0 10 0 0", "grain 3 0 0 90 0 0").rule("a<3");
+        Ash x = sharp("16 the i-th by numbers; NONE").tell("grain 5 23 0 14 0 0", "grain 0 0 0 12 0 0", "grain 2 5 0 10 0 0", "grain 3 0 0 90 0 0")
+            .rule("a<3");
         for (int line : new int[] {0, 53, 143}) {
             x.is("chain " + line + " -1", 3).is("chain " + line + " 0", 0).is("chain " + line + " 1", 53).is("chain " + line + " 2", 143);
             x.are(NONE, "chain " + line + " 3", "chain " + line + " -2", "chain " + line + " " + LEAST, "chain " + line + " " + MOST);
@@ -280,11 +296,13 @@ public final class RulesEdgesTest {
 
     private static void chainRefused() {
         Ash x = sharp("16 UNKNOWN").tell("grain 0 0 0 50 50 50").rule("a<1");
-        x.refuses("chain 1 -1", UNKNOWN).refuses("chain -1 -1", UNKNOWN).refuses("chain 144 0", UNKNOWN).refuses("chain " + LEAST + " 0", UNKNOWN).refuses("chain " + MOST + " -2", UNKNOWN);
+        x.refuses("chain 1 -1", UNKNOWN).refuses("chain -1 -1", UNKNOWN).refuses("chain 144 0", UNKNOWN).refuses("chain " + LEAST + " 0", UNKNOWN)
+            .refuses("chain " + MOST + " -2", UNKNOWN);
         x = sharp("16 STATE").tell("grain 0 0 0 50 50 50");
         x.refuses("chain 0 -1", STATE).refuses("chain 0 5", STATE).refuses("chain 1 0", UNKNOWN);
         x.tell("age 1 60 5 5", "age 1 61 4 4").refuses("chain 0 -1", STATE);
-        x.rule("y=0").refuses("chain 0 -1", NO).refuses("chain 0 0", NO).refuses("chain 0 9", NO).refuses("chain 1 0", UNKNOWN).rule("g>0").is("chain 0 -1", 1);
+        x.rule("y=0").refuses("chain 0 -1", NO).refuses("chain 0 0", NO).refuses("chain 0 9", NO).refuses("chain 1 0", UNKNOWN).rule("g>0")
+            .is("chain 0 -1", 1);
     }
 
     // ---- 17
