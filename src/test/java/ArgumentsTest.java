@@ -205,6 +205,7 @@ public final class ArgumentsTest {
                 asked.add(call);
             }
         }
+        check.so("no more calls than are promised", past.size() + asked.size() <= Ash.CALLS);
         int most = 120;
         for (int from = 0; from < asked.size(); from += most) {
             List<String> some = asked.subList(from, Math.min(asked.size(), from + most));
